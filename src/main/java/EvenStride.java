@@ -247,8 +247,7 @@ public final class EvenStride {
             return BAD;
         }
         stable.begin(strength, n, tuned[SPREAD], tuned[PULL], law);
-        stable.mayPull = what != 2;
-        int score = stable.bestFrom(0, strength, 0, 0);
+        int score = stable.bestScore(what != 2);
         return what == 0 ? Stable.pullsOf(score) : Stable.wonOf(score);
     }
 
@@ -430,7 +429,7 @@ public final class EvenStride {
 
     // ---- kinds
 
-    /** Each kind asks the one above it once; the deepest, HIDDEN, stands four levels down. */
+    /** Each kind asks the one above it once; that has a lesser number, so four levels are the most. */
     private int readAs(int kind, Runner one) {
         traced += KIND_TRACE[kind];
         if (kind == RUN) {
@@ -868,7 +867,7 @@ public final class EvenStride {
 
         final int[] bars = new int[RACES];
         final int[] prizes = new int[RACES];
-        boolean mayPull;
+        private boolean mayPull;
         private int strength;
         private int races;
         private int spread;
@@ -883,8 +882,13 @@ public final class EvenStride {
             by = withRule;
         }
 
+        int bestScore(boolean withPulls) {
+            mayPull = withPulls;
+            return bestFrom(0, strength, 0, 0);
+        }
+
         /** The best score of all that can still be chosen: more won first, then the lesser set. */
-        int bestFrom(int race, int mark, int pulls, int won) {
+        private int bestFrom(int race, int mark, int pulls, int won) {
             if (race >= races) {
                 return won * SETS + SETS - 1 - pulls;
             }

@@ -34,6 +34,9 @@ public final class OddsTest {
         Due.due("odds(0, 3, 0): ties are its own", x.odds(0, 3, 0), 6);
         Due.due("odds(0, 3, 1)", x.odds(0, 3, 1), 3);
         Due.due("close(0, 3)", x.close(0, 3), 6);
+        Due.due("close(0, 3) with nothing asked before", of(1, 70, 70).close(0, 3), 6);
+        Due.due("odds(0, 3, 1) with nothing asked before", of(1, 70, 70).odds(0, 3, 1), 3);
+        Due.due("even(0, 3, -1) with nothing asked before", of(1, 70, 70).even(0, 3, -1), 6);
         EvenStride sure = of(0, 70, 70, 70);
         Due.due("spread 0: odds(0, 7, -1)", sure.odds(0, 7, -1), 1);
         Due.due("spread 0: odds(0, 7, 0)", sure.odds(0, 7, 0), 1);
@@ -155,6 +158,7 @@ public final class OddsTest {
         checkEven(of(1, 70, 75), 3, 0, 4, 6);
         checkEven(of(1, 70, 90), 3, 0, 19, 6);
         checkEven(of(1, 70, 92), 3, 0, 20, 14);
+        checkEven(of(1, 91, 70), 3, 20, 0, 14);
         checkEven(of(1, 70, 125), 3, 0, 0, 18);
         checkEven(of(0, 90, 70), 3, 0, 0, 2);
         EvenStride marks = of(1, 75, 70);

@@ -107,7 +107,7 @@ public final class RuleTest {
             "best 1 of 1; best 1 of 1;", 13, "move 1/1;  move 1/1;", 11, "cap 1;cap 1;", 6,
             "best 1 of 1;cap 1;move 1/1;over 1;cap 1;", 34, "best 1 of 1;cap 1;move 1/1;over 1;x", 34,
             "of 1;", 0, " of 1;", 1, "5;", 0, "/", 0, "cap 1; over", 11, "cap 1;best 3 of 2; ?", 16,
-            "cap 5;over 5 bests", 13, "cap 007;", 4, "cap 5a;", 5,
+            "cap 5;over 5 bests", 13, "cap 007;", 4, "cap 5a;", 5, "capz 5;", 0, "capa 5;", 0, "zcap 5;", 0, "cap 5z", 5,
         };
         for (int k = 0; k < texts.length; k += 2) {
             String text = (String) texts[k];
