@@ -117,7 +117,8 @@ public final class RaceTest {
         last.set(7, 4, 1);
         Due.due("the last of eight", last.race(2, 255), 7);
         EvenStride again = luckless(200, 60, 61);
-        again.race(0, 3);
+        again.set(0, 5, 0);
+        Due.due("0 shows 200", again.race(0, 3), 0);
         again.set(2, 2, 1);
         Due.due("one who is not in it is not first by what it showed before", again.race(0, 6), 2);
         EvenStride below = luckless(0, 0);
