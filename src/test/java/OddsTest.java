@@ -216,7 +216,7 @@ public final class OddsTest {
     }
 
     /** Counts every row for every row of weights. */
-    private static long[] bestWeights(int[] bare, int spread) {
+    static long[] bestWeights(int[] bare, int spread) {
         int size = bare.length;
         long[] best = new long[size + 1];
         best[size] = Long.MAX_VALUE;
