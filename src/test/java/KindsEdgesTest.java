@@ -16,6 +16,7 @@ public final class KindsEdgesTest {
         imageOfNoRunners();
         imageOfEight();
         imageKeepsAllThatIsTheirs();
+        imageKeepsTwelveFigures();
         imageKeepsNothingElse();
         imageIsKeptAgain();
         noneIsTheLatestRace();
@@ -229,6 +230,27 @@ public final class KindsEdgesTest {
             y.lot(5);
             Due.due("back(" + which + ")", y.back(which), x.back(which));
             Due.due("all that can be seen", Sight.of(y).equals(Sight.of(x)) ? 1 : 0, 1);
+        }
+    }
+
+    private static void imageKeepsTwelveFigures() {
+        Due.sentence("IMAGES 0, 1 keep RUNNERS with all that is theirs");
+        for (int races : new int[] {11, 12, 13}) {
+            EvenStride x = Sample.luckless(100, 100);
+            for (int race = 1; race <= 25; race++) {
+                x.set(0, 2, race - 13);
+                x.race(0, 3);
+                if (race == races) {
+                    x.keep(0);
+                }
+            }
+            Due.due("back(0)", x.back(0), races);
+            Due.due("RACES that it ran", x.about(0, 4), races);
+            int kept = Math.min(12, races);
+            Due.due("FIGURES that are kept", x.about(0, 5), kept);
+            for (int k = 0; k <= kept; k++) {
+                Due.due("figure(0, " + k + ") of " + races, x.figure(0, k), k == kept ? NO : 100 + races - k - 13);
+            }
         }
     }
 

@@ -162,7 +162,10 @@ public final class RaceEdgesTest {
                     x.tune(0, spread);
                     x.lot(lotAhead(bits << 16 | low));
                     x.race(0, 3);
-                    Due.due("bits " + bits + " by " + lucks, x.shown(0, 2), bits % lucks - spread);
+                    int luck = bits % lucks - spread;
+                    Due.due("bits " + bits + " by " + lucks, x.shown(0, 2), luck);
+                    Due.due("SHOWN has it", x.shown(0, 0), 50 + luck);
+                    Due.due("and so has the FIGURE", x.figure(0, 0), 50 + luck);
                 }
             }
         }
@@ -194,6 +197,13 @@ public final class RaceEdgesTest {
         below.set(1, 2, -2);
         below.set(2, 2, -3);
         Due.due("all below 0", below.race(0, 7), 1);
+        EvenStride again = Sample.luckless(0, 0, 0);
+        again.set(1, 2, 20);
+        Due.due("1 is ahead of 2", again.race(0, 6), 1);
+        again.set(0, 2, -3);
+        again.set(1, 2, -4);
+        again.set(1, 5, 0);
+        Due.due("all below 0, by what the two show now", again.race(0, 3), 0);
     }
 
     private static void firstOfSeveral() {
@@ -489,6 +499,11 @@ public final class RaceEdgesTest {
         Due.due("200 beside 200", x.weight(0, 9), 0);
         Due.due("200 beside 200", x.weight(3, 9), 0);
         Due.due("the last of four", x.weight(3, 15), 200);
+        EvenStride moved = Sample.luckless(100, 90);
+        moved.set(0, 2, 10);
+        moved.race(0, 3);
+        Due.due("by the marks of now", moved.weight(0, 3), 20);
+        Due.due("not by those of the latest race", moved.shown(0, 1), 10);
         EvenStride y = Sample.three();
         Unchanged.by("weight(0, 3) only asks", Sample::three, z -> z.weight(0, 3), y.weight(0, 3));
     }

@@ -322,7 +322,10 @@ public final class RuleEdgesTest {
             faulty("cap 5;" + other, 6);
         }
         for (String letter : new String[] {"a", "z"}) {
-            faulty(letter + "cap 5;", 0);
+            for (String item : ITEMS) {
+                faulty(letter + item, 0);
+                faulty("best" + letter + item, 0);
+            }
             faulty("cap" + letter + " 5;", 0);
             faulty("cap 5" + letter + ";", 5);
         }

@@ -135,6 +135,7 @@ public final class StableEdgesTest {
         int[] often = {3, 3, 3, 3, 3, 2, 1, 0, 0};
         for (int k = 0; k < bars.length; k++) {
             Due.due("BAR " + bars[k], stable(2, 10, bars[k], 1).plan(100, 1, 2), often[k]);
+            Due.due("BAR " + bars[k] + " by 200", stable(2, 10, bars[k], 200).plan(100, 1, 2), 200 * often[k]);
         }
     }
 
@@ -203,11 +204,16 @@ public final class StableEdgesTest {
             Due.ruled(x, "move 1/20;");
             plans("PULL " + pull, x, 100, 2, pull == 20 ? 1 : 0, pull == 20 ? 4 : 3, 3);
         }
-        // the best of two is the one it tried, unless it pulled both; of one race it has one figure only
+        // the best of two is the one it tried, unless it pulled both
         EvenStride best = stable(2, 50, 50, 0, 50, 0, 50, 1);
         Due.ruled(best, "best 1 of 2;");
         plans("best 1 of 2", best, 100, 3, 3, 5, 3);
-        plans("best 1 of 2 from the second on", stable(2, 50, 50, 0, 50, 1), 100, 2, 1, 5, 3);
+        // behind one race there is one figure only, whatever K and N are
+        for (String rule : new String[] {"best 1 of 2;", "best 2 of 2;", "best 1 of 12;", "best 12 of 12;"}) {
+            EvenStride x = stable(2, 50, 50, 0, 50, 1);
+            Due.ruled(x, rule);
+            plans(rule, x, 100, 2, 1, 5, 3);
+        }
     }
 
     private static void planIsTheLeastOfSeveral() {
