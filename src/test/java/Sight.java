@@ -23,7 +23,7 @@ final class Sight {
         sight.image(0);
         sight.image(1);
         // with the calls that made the object these must stay within the 512 that are promised
-        Due.holds("a sight of " + sight.seen.size() + " calls", sight.seen.size() <= 420);
+        Due.holds("a sight of " + sight.seen.size() + " calls", sight.seen.size() <= 400);
         return sight.seen;
     }
 
