@@ -7,8 +7,8 @@ import java.util.TreeMap;
 
 /**
  * The document once more, written apart from the class and without a thought of
- * speed: RandomRunsTest holds the two against one another. THE TEXT is not read
- * here; RuleTest has a reader of its own for that.
+ * speed: RandomRunsTest holds the two against one another. PlainReader reads THE
+ * TEXT.
  */
 final class PlainStride {
     static final int BAD = -1, STATE = -2, FULL = -3, NO = -1000000;
@@ -41,6 +41,7 @@ final class PlainStride {
     int lot = 1;
     int races;
     int spread = 2, ease = 3, pull = 10;
+    StringBuilder text = new StringBuilder();
     int[] rule = {1, 1, 1, 1, 200, 200};
     int[][] cards = new int[10][2];
     int[] hulls = {1, 0, 0, 0, 0, 1};
@@ -134,6 +135,41 @@ final class PlainStride {
         int was = lot;
         lot = v;
         return was;
+    }
+
+    int type(long v, int n) {
+        if (!in(n, 1, 8)) {
+            return BAD;
+        }
+        if (text.length() + n > 200) {
+            return FULL;
+        }
+        StringBuilder more = new StringBuilder();
+        for (int k = 0; k < n; k++) {
+            more.append((char) Math.floorMod(v, 256L));
+            v = Math.floorDiv(v, 256L);
+        }
+        return text.append(more.reverse()).length();
+    }
+
+    int clear() {
+        int was = text.length();
+        text = new StringBuilder();
+        return was;
+    }
+
+    int rule() {
+        int[] told = {1, 1, 1, 1, 200, 200};
+        int answer = new PlainReader(text.toString(), told).answer();
+        if (answer >= 0) {
+            rule = told;
+            clear();
+        }
+        return answer;
+    }
+
+    int told(int what) {
+        return in(what, 0, 5) ? rule[what] : BAD;
     }
 
     private int markBy(List<Integer> figures, int mark) {
@@ -464,6 +500,6 @@ final class PlainStride {
     }
 
     int count(int what) {
-        return what == 0 ? horses.size() : what == 1 ? races : what == 3 ? lot : NO;
+        return in(what, 0, 3) ? new int[] {horses.size(), races, text.length(), lot}[what] : NO;
     }
 }

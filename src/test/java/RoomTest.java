@@ -1,14 +1,31 @@
 import java.lang.management.ManagementFactory;
 
 /**
- * All calls of a run live in one room, so a call makes nothing: the dearest ones
- * are asked 512 times, and what the thread made meanwhile stays next to nothing.
+ * All calls of a run live in one room, so a call makes nothing: each of the
+ * dearest ones is asked some hundred times of an object of its own, and what the
+ * thread made meanwhile stays next to nothing.
  */
 public final class RoomTest {
-    private static final int CALLS = 512;
-    private static final long LITTLE = 64 * CALLS;
+    private static final int CALLS = 150;
+    private static final long LEAST_OBJECT = 16;
 
     public static void main(String[] args) {
+        // classes are loaded by the first object; what that makes is not the calls'
+        ask(dearest(), 11, 0);
+        long measuring = madeByMeasuring();
+        for (int which = 0; which < 12; which++) {
+            EvenStride x = dearest();
+            long before = made();
+            for (int k = 0; k < CALLS; k++) {
+                ask(x, which, k);
+            }
+            long more = made() - before - measuring;
+            Due.holds("call " + which + " made " + more + " bytes", before < 0 || more < CALLS * LEAST_OBJECT);
+        }
+        Due.end("RoomTest");
+    }
+
+    private static EvenStride dearest() {
         EvenStride x = new EvenStride();
         for (int i = 0; i < 8; i++) {
             x.runner(100 + 3 * i);
@@ -19,15 +36,9 @@ public final class RoomTest {
             x.card(race, 0, 90 + race);
             x.card(race, 1, 20 * race);
         }
-        for (int which = 0; which < 12; which++) {
-            long before = made();
-            for (int k = 0; k < CALLS; k++) {
-                ask(x, which, k);
-            }
-            long more = made() - before;
-            Due.holds("call " + which + " made " + more + " bytes", before < 0 || more < LITTLE);
-        }
-        Due.end("RoomTest");
+        x.keep(0);
+        x.keep(1);
+        return x;
     }
 
     /** Bytes that this thread has made so far; below 0 where the machine does not tell. */
@@ -37,6 +48,12 @@ public final class RoomTest {
             return bean.getThreadAllocatedBytes(Thread.currentThread().getId());
         }
         return -1;
+    }
+
+    private static long madeByMeasuring() {
+        made();
+        long before = made();
+        return made() - before;
     }
 
     private static long ask(EvenStride x, int which, int k) {
